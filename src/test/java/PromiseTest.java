@@ -152,6 +152,10 @@ public final class PromiseTest {
         fault("feels 1" + (char) 233 + ";", 7);
         fault("feels 1" + (char) 0 + ";", 7);
         fault("feels warmsteam;", 6);
+        fault("feels warmz;", 6);
+        fault("feels (warma;", 7);
+        fault("peels 1;", 0);
+        fault("feels 1 er 1;", 8);
         fault("feels 1a;", 7);
         fault("feels ((((((1;", 11);
         fault("feels not not not not not not 1;", 26);
@@ -213,6 +217,7 @@ public final class PromiseTest {
         value("not 7", 0);
         value("not not 7", 1);
         value("5 and 7", 1);
+        value("1 and 1", 1);
         value("5 and 0", 0);
         value("0 or 9", 1);
         value("0 or 0", 0);
@@ -225,8 +230,15 @@ public final class PromiseTest {
         value("100", 99);
         value("-100", -99);
         value("9999 * 9999", 99);
+        value("0or1and1=0+1*(".repeat(5) + "0or1and1=0+1*1" + ")".repeat(5), 1);
+        value("0or1and1=0+1*(".repeat(5) + "0or1and1=0+1*2" + ")".repeat(5), 0);
         value("9999 * 9999 * 9999", -99);
-        SteamOnBench x = under("1", "1000", "-100");
+        SteamOnBench x = fresh();
+        due("160 bytes", text(x, "feels 0;bears  " + "1+".repeat(68) + "1;glad 0;"), 1);
+        x.force(1);
+        x.bather(0, 0);
+        due("160 bytes", x.asks(1, 0), 69);
+        x = under("1", "1000", "-100");
         x.bather(19, 3);
         due("bound", x.asks(1, 0), 999);
         due("bound", x.asks(2, 0), -99);
@@ -374,6 +386,9 @@ public final class PromiseTest {
         due("out", x.door(0, 3), 2);
         due("the door", x.hut(2), 1);
         due("there", x.door(0, 3), STATE);
+        due("to the lowest", x.door(0, 0), 3);
+        x.fire(2, 1);
+        x.put(0, 0, 3);
         due("in", x.door(0, 1), 3);
         due("the door", x.hut(2), 0);
         due("out", x.door(0, 3), 1);
@@ -443,6 +458,10 @@ public final class PromiseTest {
         due("WARM", x.run(2, 10), 17);
         due("JOY", x.run(2, 20), 1);
         due("now", x.run(0, 10), 10);
+        x.door(0, 3);
+        due("none IN", x.run(3, 0), 0);
+        x.put(0, 0, 0);
+        x.fire(2, 3);
         due("n", x.run(-1, 0), BAD);
         due("n", x.run(41, 0), BAD);
         for (int what : new int[] {-1, 4, 9, 11, 15, 16, 19, 21, 26, Integer.MIN_VALUE, Integer.MAX_VALUE}) {
@@ -454,6 +473,11 @@ public final class PromiseTest {
         x.bather(0, 0);
         x.fire(0, 990);
         due("in thought it passes 999", x.run(40, 10), 1);
+
+        x = under("more", "999", "1");
+        for (int b = 0; b < 6; b++) { x.bather(b, 0); }
+        due("of all", x.run(40, 1), 240);
+        due("of the sixth", x.run(40, 15), 200);
 
         promise = 17;
         x = under("1", "39", "0");
@@ -522,6 +546,10 @@ public final class PromiseTest {
         due("of like ones the first", x.benches(1, 0), 101);
         due("JOY", x.benches(1, 1), 0);
         due("n", x.benches(0, 0), BAD);
+        x = under("0", "999", "(more = bench) + (more = 3)");
+        for (int more : new int[] {2, 0, 3, 1, 2, 0}) { x.bather(more, more == 3 ? 3 : 0); }
+        due("each its own", x.benches(2, 0), 310231);
+        due("JOY, none by who is OUT", x.benches(2, 1), 10);
         due("n", x.benches(11, 0), BAD);
         due("what", x.benches(1, 2), BAD);
 
@@ -566,6 +594,9 @@ public final class PromiseTest {
         due("n", x.logs(-1, 0), BAD);
         due("n", x.logs(41, 0), BAD);
         due("what", x.logs(1, -1), BAD);
+        due("what", x.logs(1, 2), BAD);
+        x.fire(3, 3);
+        due("all the wood", x.logs(1, 0), 3);
         x = under("0", "999", "9 * (449 < stones)");
         x.bather(0, 0);
         x.fire(1, 0);
@@ -609,6 +640,8 @@ public final class PromiseTest {
         due("above", x.share(2, 1, 0), 0);
         due("below", x.share(2, 1, 1), 1);
         due("that is 0", x.share(0, 0, 0), NO);
+        x.put(0, 2, 6);
+        due("now", x.share(0, 0, 1), 1);
         due("none", x.share(3, 1, 0), NO);
         due("none", x.share(-1, 1, 0), NO);
         due("n", x.share(0, 41, 0), NO);
@@ -731,6 +764,9 @@ public final class PromiseTest {
         sheet(x, 0, 2, 1, 2);
         due("laws", x.laws(0, 0), 9);
         due("THE LAW stays", x.count(4), 0);
+        x.cell(0, 0, 2);
+        x.cell(0, 1, 4);
+        due("laws", x.laws(0, 0), 4);
         due("none", x.laws(0, 1), -5);
         due("missing", x.laws(1, 1), -11);
         due("sheet", x.laws(4, 1), BAD);
