@@ -750,6 +750,11 @@ public final class PromiseTest {
         x.bather(54, 100);
         x.bather(52, 102);
         due("whose", x.whose(0), 5);
+        for (int b = 3; b < 6; b++) { x.bather(0, b * 50); }
+        due("whose, of six", x.whose(0), 5);
+        sheet(x, 0, 2, 27);
+        due("the last", x.whose(0), 32);
+        sheet(x, 0, 2, 12);
         due("missing", x.whose(1), -11);
         due("sheet", x.whose(4), BAD);
         x.sheet(0, 2, 21);
