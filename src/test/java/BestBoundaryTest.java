@@ -115,6 +115,17 @@ public final class BestBoundaryTest {
             x.put(5, Edge.BENCH, 0);
             Edge.due("the last", x.benches(1, 0), 3);
         });
+        Edge.edge(20, "as digits of all BATHERS: six, each on another BENCH; two of them OUT", () -> {
+            SteamOnBench x = glad("bench = more");
+            int[] more = {2, 0, 1, 1, 2, 0};
+            for (int b = 0; b < 6; b++) { x.bather(more[b], 2 - more[b]); }
+            Edge.due("each as one would", x.benches(1, 0), 312231);
+            Edge.due("JOY", x.benches(1, 1), 6);
+            x.put(1, Edge.BENCH, 3);
+            x.put(4, Edge.BENCH, 3);
+            Edge.due("two OUT", x.benches(1, 0), 302201);
+            Edge.due("JOY", x.benches(10, 1), 40);
+        });
         Edge.edge(20, "of like ones the first by digits", () -> {
             SteamOnBench x = glad("1");
             for (int b = 0; b < 6; b++) { x.bather(0, 2); }
@@ -161,6 +172,12 @@ public final class BestBoundaryTest {
             x.put(1, Edge.BENCH, 2);
             Edge.due("on one BENCH", x.swap(1, 0), -1);
             Edge.due("as so", x.swap(1, 1), 20);
+        });
+        Edge.edge(21, "a -1 that is an answer comes behind the refusal of a number", () -> {
+            Edge.due("-1", Edge.fresh().swap(40, 0), -1);
+            Edge.due("n", Edge.fresh().swap(41, 0), Edge.BAD);
+            Edge.due("n", Edge.fresh().swap(-1, 0), Edge.BAD);
+            Edge.due("what", Edge.fresh().swap(40, 2), Edge.BAD);
         });
         Edge.edge(21, "n 0: none is more than so", () -> {
             SteamOnBench x = glad("bench * more");

@@ -166,6 +166,20 @@ public final class HutBoundaryTest {
         Edge.edge(5, "The first n come", () -> {
             for (int n = 1; n <= 5; n++) { Edge.due("feed " + n, Edge.fresh().feed(n, 1, 1, 1, 1, 1), n); }
         });
+        Edge.edge(5, "behind THE TAPE's, one by one: five, in their order", () -> {
+            String text = "feels 1+2;bears 34;glad 5;    ";
+            SteamOnBench x = Edge.fresh();
+            for (int i = 0; i < text.length(); i += 5) {
+                int[] b = new int[5];
+                for (int j = 0; j < 5; j++) { b[j] = text.charAt(i + j); }
+                Edge.due("feed", x.feed(5, b[0], b[1], b[2], b[3], b[4]), i + 5);
+            }
+            Edge.due("text", x.text(), 1);
+            x.force(1);
+            x.bather(0, 0);
+            int[] due = {3, 34, 5};
+            for (int part = 0; part < 3; part++) { Edge.due("asks " + part, x.asks(part, 0), due[part]); }
+        });
         for (int place = 0; place < 5; place++) {
             int p = place;
             Edge.edge(5, "BAD: any of the five (0 .. 255 each): " + p, () -> {

@@ -126,6 +126,10 @@ public final class TextBoundaryTest {
             faultOf("waRm", 0);
             faultOf("a", 0);
             faultOf("z", 0);
+            faultOf("warmz", 0);
+            faultOf("zwarm", 0);
+            faultOf("warm`", 4);
+            faultOf("warm{", 4);
             fault("feelswarm;", 0);
         });
         Edge.edge(6, "a WORD that is neither KEY nor NAME", () -> {
@@ -133,6 +137,9 @@ public final class TextBoundaryTest {
                 standsOf(name);
                 faultOf(name + "s", 0);
                 faultOf(name.substring(1), 0);
+                for (int i = 0; i < name.length(); i++) {
+                    faultOf(name.substring(0, i) + 'x' + name.substring(i + 1), 0);
+                }
             }
             faultOf("1 + joy", 4);
             faultOf("1 xor 2", 2);
@@ -150,6 +157,17 @@ public final class TextBoundaryTest {
             fault("feels 1;glad 1;", 8);
             fault("feels 1;feels 1;", 8);
             fault("feels 1;bears 1;bears 1;", 16);
+        });
+        Edge.edge(6, "a WORD that is but like a KEY", () -> {
+            for (String key : new String[] {"feels", "bears", "glad"}) {
+                String text = "feels 1;bears 2;glad 3;";
+                int place = text.indexOf(key);
+                for (int i = 0; i < key.length(); i++) {
+                    fault(text.substring(0, place + i) + 'x' + text.substring(place + i + 1), place);
+                }
+            }
+            for (String key : new String[] {"xr", "ox", "xnd", "axd", "anx"}) { faultOf("1 " + key + " 1", 2); }
+            for (String key : new String[] {"xot", "nxt", "nox"}) { faultOf(key + " 1", 0); }
         });
         Edge.edge(6, "NUMBERS (as many digits as stand there; more than 4 are too long)", () -> {
             standsOf("9999");

@@ -209,6 +209,17 @@ public final class ToldBoundaryTest {
                 Edge.due("the least of " + warm[i], x.states(0, 0, 2), least[i]);
             }
         });
+        Edge.edge(27, "a -1 that is an answer comes behind the refusal of a number", () -> {
+            SteamOnBench x = Edge.fresh();
+            x.bather(0, 0);
+            Edge.sheet(x, 0, Edge.SHORTS, 998);
+            Edge.due("-1", x.states(0, 0, 2), -1);
+            Edge.due("b", x.states(0, 1, 2), Edge.NO_BATHER);
+            Edge.due("what", x.states(0, 0, 3), Edge.NOT_AS_TOLD);
+            Edge.due("-1, of steams", x.steams(0, 0, 1), -1);
+            Edge.due("b, of steams", x.steams(0, 1, 1), Edge.NO_BATHER);
+            Edge.due("what, of steams", x.steams(0, 0, 2), Edge.NOT_AS_TOLD);
+        });
         Edge.edge(27, "WARM by which it would: many of like ones by the bounds", () -> {
             SteamOnBench x = Edge.under("0 - 9", "999", "0");
             x.bather(0, 0);
