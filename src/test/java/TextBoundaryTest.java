@@ -85,6 +85,9 @@ public final class TextBoundaryTest {
             stands("feels 1" + REST + " \n ");
             fault("feels 1" + REST + ";", 23);
             fault("feels 1" + REST + " 1", 24);
+            fault("feels 1" + REST + " wet", 24);
+            fault("feels 1" + REST + " 12345", 24);
+            fault("feels 1" + REST + " " + (char) 9, 24);
             fault("feels 1" + REST + "feels 1" + REST, 23);
         });
         Edge.edge(6, "THE TAPE (160 bytes at most): a text, a FAULT at the last byte, at the size", () -> {
